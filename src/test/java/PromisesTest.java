@@ -174,6 +174,7 @@ public final class PromisesTest {
         due("like", x.told(1, 3), 0);
         due("all looked at", x.count(2), 0);
         due("as it answered", x.count(1), 9);
+        due("three and three strangers", x.threes(1), 2);
         due("nobody", x.asIn(1), 0);
         due("nobody knows", x.count(1), 0);
         for (int bad : new int[] {-1, 2, 5, MIN, MAX}) due("bad " + bad, x.asIn(bad), -2);
@@ -225,6 +226,11 @@ public final class PromisesTest {
         due("wheel: price below 0", x.tells(3, 3, 5, 1), 0);
         due("wheel: price 1", x.tells(3, 0, 1, 1), 1);
         due("parts 0 are halves", x.tells(4, 2, 4, 0), 0);
+        x = table(7);
+        x.town(3, 1);
+        due("parts: unlike modulo 2 alone", x.tells(0, 0, 3, 0), 1);
+        due("parts: unlike modulo 3 alone", x.tells(0, 0, 2, 0), 1);
+        due("parts: like by both", x.tells(0, 0, 6, 0), 0);
         x = table(7);
         x.town(5, 2);
         due("lot: turned to yes", x.tells(0, 0, 5, 0), 1);
@@ -285,6 +291,15 @@ public final class PromisesTest {
         }
         StringBuilder longest = new StringBuilder(FULL_TEXT);
         while (longest.length() < 160) longest.append(longest.length() % 2 == 0 ? ' ' : '\n');
+        for (char sign = 0; sign < 256; sign++) {
+            if ("abcdefghijklmnopqrstuvwxyz0123456789();+-*<= \n".indexOf(sign) >= 0) continue;
+            due("byte " + (int) sign + " behind", read(new ThreesAtTable(), FULL_TEXT + sign), -100 - FULL_TEXT.length());
+            due("byte " + (int) sign + " for a ONE", read(new ThreesAtTable(), "counts " + sign + ";"), -107);
+        }
+        for (String word : new String[] {"gnow", "knov", "kno", "knowz", "zknow", "nano", "tone", "on", "os"}) {
+            due("word " + word, read(new ThreesAtTable(), "counts 1;costs " + word + ";"), -115);
+        }
+        due("word countsz", read(new ThreesAtTable(), "countsz"), -100);
         due("a tape full of blanks", read(new ThreesAtTable(), longest.toString()), 1);
         due("no blanks needed", read(new ThreesAtTable(), "counts(one)costs"), -111);
     }
@@ -437,6 +452,8 @@ public final class PromisesTest {
         due("none fewer", x.change(0), -1);
         due("none fewer, then", x.change(1), -1);
         for (int bad : new int[] {-1, 2, MIN, MAX}) due("bad " + bad, x.change(bad), -2);
+        due("pair 0", table(6).change(0), 0);
+        due("threes without pair 0", table(6).change(1), 16);
         x = table(4, 1, 2, 12);
         lookAway(x, 1, 3, 13, 23);
         due("nothing stands", x.change(0), -1);
@@ -488,6 +505,12 @@ public final class PromisesTest {
         due("three by costs", x.noneLeft(0), 3);
         due("three by costs, bits", x.noneLeft(1), 1 + (1 << 3) + (1 << 10));
         due("three by costs, costs", x.noneLeft(2), 1 + 3 + 5);
+        due("four needed", ruled(6, "counts one=0;costs 1;joy 1;").noneLeft(0), -1);
+        due("three needed", ruled(5, "counts one=0;costs 1;joy 1;").noneLeft(0), 3);
+        due("costs of strangers by names", ruled(3, "counts 1;costs third*50+seen*10+know*7+many;joy 1;").noneLeft(2), 13);
+        due("costs of friends by names", ruled(3, "counts 1;costs third*50+seen*10+know*7+many;joy 1;", 1, 2, 12).noneLeft(2), 20);
+        due("costs, bounded each", ruled(4, "counts 1;costs 60+one*99-other*99;joy 1;").noneLeft(2), 0);
+        due("costs are 99 at most", ruled(4, "counts 1;costs 9999;joy 1;").noneLeft(2), 198);
     }
 
     private static void all() {
@@ -521,6 +544,7 @@ public final class PromisesTest {
         due("none within", x.halved(0), 0);
         due("guest 1 with guest 0", x.halved(1), 3);
         due("nobody knows: one alone", table(6).halved(1), 1);
+        due("only one", table(1).halved(1), 1);
         for (int bad : new int[] {-1, 2, MIN, MAX}) due("bad " + bad, x.halved(bad), -2);
     }
 
@@ -584,7 +608,10 @@ public final class PromisesTest {
         due("only all strangers of the others, and pairs with 0", x.half(0), 0);
         due("most of four", x.half(1), 4);
         due("all looked at", table(5).half(0), 0);
-        due("all looked at, most", table(5).half(1), 10);
+        x = table(5);
+        due("all looked at, most", x.half(1), 10);
+        x.sit(2);
+        due("most anew", x.half(1), 0);
         x = table(5);
         lookAway(x, 1, 2, 3, 4, 12, 13, 14, 23, 24, 34);
         due("ten: as WITHOUT", x.half(0), 12);
@@ -614,6 +641,9 @@ public final class PromisesTest {
         due("sure, below", table(3).chance(1), 1);
         due("never, above", table(2).chance(0), 0);
         due("never, below", table(2).chance(1), 1);
+        x = table(2);
+        lookAway(x, 1);
+        due("never, of two ways", x.chance(0) * 10 + x.chance(1), 1);
         x = table(5);
         lookAway(x, 1, 2, 3, 4, 12, 13, 14, 23, 24, 34);
         due("ten, above", x.chance(0), 253);
@@ -649,6 +679,15 @@ public final class PromisesTest {
         due("all looked at, pair", x.game(1), -1);
         lookAway(x, 1, 2, 3, 12, 13, 23);
         due("from the beginning", x.game(0), 0);
+        due("from the beginning, by", x.game(1), 0);
+        x = table(4, 1, 12);
+        lookAway(x, 3, 13);
+        due("wins", x.game(0), 1);
+        due("not by the least that is free", x.game(1), 4);
+        x = table(4, 1);
+        lookAway(x, 23);
+        due("the last pair", x.game(1), 5);
+        due("the last pair loses nothing", x.game(0), 0);
         x = ruled(3, "counts 0;costs 1;joy 1;", 1, 2);
         lookAway(x, 12);
         due("counts is not asked", x.game(0), -1);
@@ -708,9 +747,16 @@ public final class PromisesTest {
         due("seed -77", x.drawn(-77), 6);
         due("by rule", ruled(6, "counts 0;costs 1;joy 1;").drawn(5), 0);
         due("two guests", table(2).drawn(MIN), 0);
-        int threes = 0;
-        for (int seed = 0; seed < 64; seed++) threes += table(3).drawn(seed);
-        due("some of sixty-four", bit(threes > 0 && threes < 64), 1);
+        for (int seed = -64; seed < 64; seed++) {
+            ones = 0;
+            int number = seed;
+            for (int pair = 0; pair < 3; pair++) {
+                number = number * 1103515245 + 12345;
+                ones += (number >>> 13) % 2;
+            }
+            due("friends of seed " + seed, ruled(3, "counts know=3;costs 1;joy 1;").drawn(seed), ones == 3 ? 1 : 0);
+            due("strangers of seed " + seed, ruled(3, "counts know=0;costs 1;joy 1;").drawn(seed), ones == 0 ? 1 : 0);
+        }
     }
 
     private static void like() {
@@ -863,6 +909,9 @@ public final class PromisesTest {
         due("from item 1 on", x.pairs(0, 1, 1, 4), 3);
         due("the last one", x.told(0, 1), 0);
         due("not looked at", x.told(2, 5), 2);
+        fill(x, 3, 2, 3, 5, 1, 4, 2, 0);
+        due("an item each", x.pairs(3, 2, 0, 2), 2);
+        due("3 and 5", x.told(3, 5) * 10 + x.told(2, 4), 10);
         due("two of them", x.pairs(0, 1, 1, 2), 1);
         due("it became so", x.told(0, 1), 1);
         x.sit(6);
