@@ -122,14 +122,13 @@ final class Checks {
         return x;
     }
 
-    /** All that can be seen of a table by calls that change nothing. */
+    /** What can be seen of a table by calls that change nothing: some 60, as an object is used for 512 at most. */
     static String all(ThreesAtTable x) {
         StringBuilder all = new StringBuilder();
         for (int what = 0; what < 7; what++) all.append(x.count(what)).append(' ');
         for (int j = 1; j < x.count(0); j++) for (int i = 0; i < j; i++) all.append(x.told(i, j));
         for (int town = 0; town < 5; town++) {
-            all.append(" town ");
-            for (int kind = 0; kind < 6; kind++) all.append(x.taken(town, kind)).append(' ');
+            all.append(" town ").append(x.taken(town, 0)).append(' ').append(x.tells(town, 0, 1, 1));
         }
         for (int sheet = 0; sheet < 4; sheet++) {
             all.append(" sheet ").append(x.judge(sheet, 0)).append(' ').append(x.judge(sheet, 1));

@@ -273,6 +273,9 @@ public final class EdgesGuestsTest {
             for (int[] d : due) due("told " + d[0] + d[1], x.told(d[0], d[1]), d[2]);
             due("not looked at", x.count(2), 0);
             due("how many", x.count(1), 4);
+            due("no three of strangers", x.threes(1), 0);
+            due("two strangers at most", x.all(0, 1), 5);
+            due("no three of friends", x.threes(0), 0);
         });
         Checks.sentence("6: how many know one another then: of all numbers of GUESTS, none to all", () -> {
             int[] rings = {0, 1, 3, 4, 5, 6, 7};

@@ -16,6 +16,8 @@ public final class EdgesHostTest {
         pairsOfItems();
         pairsRefused();
         taken();
+        full();
+        empty();
         Checks.end();
     }
 
@@ -513,5 +515,62 @@ public final class EdgesHostTest {
             Checks.refused("another kind", Checks.OTHER, x -> x.taken(0, 1), x -> x.taken(0, 5), x -> x.taken(1, 1), x -> x.taken(2, 2), x -> x.taken(2, 3)));
         Checks.sentence("35: BAD ahead of -11", () ->
             Checks.refused("no such kind, no such town", Checks.BAD, x -> x.taken(3, 6), x -> x.taken(-1, -1), x -> x.taken(9, MAX)));
+    }
+
+    // ---- all of it full, all of it empty
+
+    private static ThreesAtTable fullOfAll() {
+        ThreesAtTable x = Checks.friends(7);
+        for (int town = 0; town < 5; town++) x.town(5 - town, 9);
+        for (int text = 1; text <= 5; text++) Checks.read(x, "counts1;costs1;joy1;");
+        x.force(5);
+        for (int sheet = 0; sheet <= 3; sheet++) x.sheet(sheet, sheet % 3, 40);
+        for (int at = 0; at < 160; at++) x.feed('?');
+        x.image();
+        return x;
+    }
+
+    private static void full() {
+        Checks.sentence("GUESTS, TOWNS, TEXTS, THE TAPE, all SHEETS full at once: each refuses one more; nothing changes", () -> {
+            ThreesAtTable x = fullOfAll();
+            String before = Checks.all(x);
+            due("a guest", x.sit(8), Checks.BAD);
+            due("a town", x.town(0, 0), Checks.FULL);
+            due("a text", x.text(), Checks.FULL);
+            due("a byte", x.feed('?'), Checks.FULL);
+            for (int sheet = 0; sheet <= 3; sheet++) {
+                due("an item", x.cell(sheet, 40, 1), Checks.OUTSIDE);
+                due("a longer row", x.sheet(sheet, sheet % 3, 41), Checks.BAD);
+            }
+            due("a sheet", x.sheet(4, 0, 1), Checks.BAD);
+            Checks.alike("all", Checks.all(x), before);
+            int[] counts = {7, 21, 0, 5, 6, 160, 5};
+            for (int what = 0; what < 7; what++) due("count " + what, x.count(what), counts[what]);
+        });
+        Checks.sentence("all full at once: what there is answers still", () -> {
+            ThreesAtTable x = fullOfAll();
+            due("the last town", x.asIn(4), 12);
+            due("threes", x.threes(2), 5);
+            due("image", x.back(), 7);
+            due("threes", x.threes(2), 35);
+            due("the last text", x.guest(6, 2), 1);
+            due("the last item", x.cell(3, 39, 12), 1);
+            due("all items", x.copy(0, 0, 3, 0, 40), 40);
+            due("which was", x.force(0), 5);
+        });
+    }
+
+    private static void empty() {
+        Checks.sentence("one GUEST, no pair, no TOWN, an empty TAPE, SHEETS of none: all that may be asked", () -> {
+            ThreesAtTable x = Checks.strangers(1);
+            for (int sheet = 0; sheet <= 3; sheet++) due("sheet", x.sheet(sheet, sheet % 3, 0), 1);
+            long[] got = {x.threes(0), x.threes(1), x.threes(2), x.threes(3), x.threes(4), x.most(), x.home(0), x.home(1), x.change(0), x.change(1),
+                x.noneLeft(0), x.noneLeft(1), x.noneLeft(2), x.all(0, 0), x.all(1, 1), x.halved(0), x.halved(1), x.fours(), x.common(0), x.common(1),
+                x.half(0), x.half(1), x.chance(0), x.chance(1), x.game(0), x.game(1), x.judge(0, 0), x.judge(3, 1), x.drawn(1), x.image(), x.back()};
+            long[] want = {0, 0, 0, -1, 0, -1, 0, 0, -1, -1,
+                0, 0, 0, 1, 1, 0, 1, 0, 1, 0,
+                1, 0, 0, 1, 0, -1, -1, -1, 0, 1, 1};
+            for (int at = 0; at < want.length; at++) due("answer " + at, got[at], want[at]);
+        });
     }
 }

@@ -126,6 +126,24 @@ public final class EdgesTablesTest {
             half("strangers alone", Checks.ruled(nobodyLooked(3), "counts know=0;costs 1;joy 1;"), 7, 1, 1, 8);
             half("seen is 3 then", Checks.ruled(nobodyLooked(3), "counts seen=3;costs 1;joy 1;"), 6, 1, 1, 4);
         });
+        Checks.sentence("HALF KNOWN: as it is now, not as it was when it was asked before", () -> {
+            ThreesAtTable x = Checks.strangers(7);
+            half("of seven", x, 0, 35, 1, 1);
+            x.sit(3);
+            x.meet(0, 1, 2);
+            half("of three", x, 1, 1, 1, 2);
+            x.meet(0, 1, 1);
+            half("none then", x, 1, 0, 0, 1);
+            x.sit(4);
+            due("above, asked first", x.chance(0), 1);
+            x.sit(2);
+            due("above, asked first", x.chance(0), 0);
+            x.meet(0, 1, 2);
+            due("below, asked first", x.chance(1), 1);
+            x.sit(3);
+            x.meet(0, 2, 2);
+            due("below, asked first", x.chance(1), 2);
+        });
         Checks.sentence("HALF KNOWN: asking changes nothing", () -> {
             ThreesAtTable x = nobodyLooked(5);
             for (int what = 0; what < 2; what++) {

@@ -63,7 +63,8 @@ public final class EdgesTextsTest {
 
     private static ThreesAtTable fullTape() {
         ThreesAtTable x = Checks.rich();
-        while (x.count(5) < 160) x.feed(' ');
+        Checks.feed(x, many(" ", 160 - x.count(5)));
+        due("the tape is full", x.count(5), 160);
         return x;
     }
 
@@ -80,7 +81,7 @@ public final class EdgesTextsTest {
             Checks.refused(EdgesTextsTest::fullTape, "feed a full tape", Checks.FULL, x -> x.feed(32), x -> x.feed(0), x -> x.feed(255));
             ThreesAtTable x = new ThreesAtTable();
             Checks.feed(x, PLAIN);
-            while (x.count(5) < 160) x.feed(10);
+            Checks.feed(x, many("\n", 160 - PLAIN.length()));
             due("what does not come", x.feed('?'), Checks.FULL);
             due("is not read", x.text(), 1);
         });
@@ -161,6 +162,23 @@ public final class EdgesTextsTest {
             due("threes", x.threes(2), 1);
             due("joy", x.guest(0, 2), 5);
         });
+        Checks.sentence("9: nothing is left of the texts and FAULTS ahead", () -> {
+            String longest = "counts1;costs1;joy" + many("1+", 70) + "1";
+            ThreesAtTable x = Checks.strangers(1);
+            for (int time = 0; time < 2; time++) due("a fault at its end", Checks.read(x, longest + "?"), -100 - 159);
+            due("a text", Checks.read(x, "counts 0 or (0 or (0 or 0));costs 0 or 0;joy 2*(2+(3*2-1));"), 1);
+            x.force(1);
+            due("joy", x.guest(0, 2), 14);
+        });
+        Checks.sentence("9: nothing is left of the TEXTS ahead: six of them", () -> {
+            ThreesAtTable x = Checks.strangers(3);
+            for (int text = 1; text <= 5; text++) due("text", Checks.read(x, "counts " + many("1+", 20) + "1;costs " + text + ";joy 1+2*(3+" + text + ");"), text);
+            for (int text = 1; text <= 5; text++) {
+                x.force(text);
+                due("joy", x.guest(0, 2), 7 + 2 * text);
+                due("costs", x.noneLeft(2), text);
+            }
+        });
         Checks.sentence("9: a TEXT is not changed by one that is read behind it", () -> {
             ThreesAtTable x = Checks.ruled(Checks.strangers(3), "counts one+other+third-3;costs one*10+other;joy 3*one+2;");
             Checks.read(x, "counts 1 and 1 and 1 or 0;costs 1+2+3+4+5;joy 6*6*6*6;");
@@ -236,6 +254,20 @@ public final class EdgesTextsTest {
             String[] words = {"a", "z", "on", "ones", "onf", "othe", "others", "thir", "thirdd", "kno", "knows", "see", "seem", "man",
                 "manys", "nots", "no", "o", "ors", "an", "ands", "joyy", "jo", "cost", "count", "many".repeat(30)};
             for (String word : words) faultPartOnce(word);
+        });
+        Checks.sentence("a WORD of which one letter is another one, or one is behind it or ahead of it", () -> {
+            String[] words = {"one", "other", "third", "know", "seen", "many", "counts", "costs", "joy", "or", "and", "not"};
+            for (String word : words) {
+                for (int at = 0; at < word.length(); at++) {
+                    for (char letter : new char[] {'a', 'z', (char) (word.charAt(at) == 'z' ? 'y' : word.charAt(at) + 1)}) {
+                        if (letter != word.charAt(at)) faultPartOnce(word.substring(0, at) + letter + word.substring(at + 1));
+                    }
+                }
+                for (String letter : new String[] {"a", "m", "z"}) {
+                    faultPartOnce(word + letter);
+                    faultPartOnce(letter + word);
+                }
+            }
         });
         Checks.sentence("a WORD of letters A to Z: bytes that begin none", () -> {
             fault("Counts 1;", 0);

@@ -82,15 +82,16 @@ public final class FaceTest {
         String code = file.replaceAll("(?s)/\\*.*?\\*/", " ").replaceAll("//[^\n]*", " ").replaceAll("\"[^\"\n]*\"", "\"\"");
         Matcher banned = Pattern.compile("\\b(throws?|try|catch|finally|synchronized|assert|package|native|volatile|transient"
             + "|protected|yield|var|Object|Random|System\\.(?!arraycopy)\\w+|Thread|Math\\.\\w*Exact|String\\.\\w+|hashCode|toString"
-            + "|java\\.(?!util\\.Arrays)\\w+|float|double)\\b|->|::|\\bstatic\\s*\\{|\\+ *\"|\" *\\+|@").matcher(code);
+            + "|java\\.(?!util\\.)\\w+)\\b|->|::|\\bstatic\\s*\\{|\\+ *\"|\" *\\+|@").matcher(code);
         while (banned.find()) must(false, "no '" + banned.group() + "' in the file");
-        Matcher library = Pattern.compile("\\b(Arrays|Integer|Math|System)\\.(\\w+)").matcher(code);
-        List<String> known = List.of("Arrays.copyOf", "Arrays.fill", "Integer.bitCount", "Math.max", "Math.min", "System.arraycopy");
+        Matcher library = Pattern.compile("\\b(Arrays|System)\\.(\\w+)").matcher(code);
+        List<String> known = List.of("Arrays.copyOf", "Arrays.copyOfRange", "Arrays.fill", "System.arraycopy");
         while (library.find()) must(known.contains(library.group()), library.group() + " is of the library");
-        must(code.lines().noneMatch(line -> line.startsWith("import ") && !line.equals("import java.util.Arrays;")), "no other import");
+        Pattern imports = Pattern.compile("import java\\.util\\.(Arrays|ArrayList|List|Iterator);");
+        must(code.lines().noneMatch(line -> line.startsWith("import ") && !imports.matcher(line).matches()), "no other import");
         Matcher method = Pattern.compile("(?m)^( {4}| {8})(?=\\w)[^;={]*\\([^;={]*\\) \\{\n(?:(?!\\1\\}).*\n)*\\1\\}").matcher(code);
         int methods = 0;
         for (; method.find(); methods++) must(method.group().lines().count() <= 60, "short: " + method.group().lines().findFirst().get());
-        must(methods > 100, "the methods are found: " + methods);
+        must(methods >= METHODS.length, "the methods are found: " + methods);
     }
 }
